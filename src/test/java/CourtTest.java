@@ -240,10 +240,14 @@ public final class CourtTest {
     Check.tray(x, 0, new long[33]);
     for (int k = 0; k < 3; k++) Check.due("6 perform", x.perform(0), 33);
     Check.due("6 minute 99", x.tires(0, 0), 7);
-    x = Check.told("court;person strength 9;tune;tires : minute;pains : 0;");
+    x = Check.told("court;person strength 99;tune;tires : if minute > 90 then minute - 90 else 0 end;"
+      + "pains : if minute > 98 then minute - 98 else 0 end;");
     Check.tray(x, 0, new long[34]);
-    for (int k = 0; k < 3; k++) x.perform(0);
-    Check.due("6 minute 99 at most", x.tires(0, 0), 0);
+    for (int k = 0; k < 3; k++) Check.due("6 perform", x.perform(0), 34);
+    Check.due("44 minutes have no such bound", x.count(5), 102);
+    Check.due("6 minute 99 at most", x.tires(0, 0), 9);
+    Check.due("6 minute 99 at most", x.person(0, 0), 99 - 36 - 3 * 9);
+    Check.due("5 minute 99 at most", x.person(0, 5), 3);
     x.evening();
     Check.due("6 evening", x.tires(0, 0), 0);
     x = Check.told("court;person strength 1;tune;");

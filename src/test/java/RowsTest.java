@@ -77,6 +77,9 @@ public final class RowsTest {
     row(x, 0, 1, 3, 0, 1);
     x.change(0, 1);
     row(x, 0, 1, 3, 0, 1);
+    x = Check.told("court;person strength 1;person strength 2;tune;pains : beside;");
+    Check.tray(x, 0, 0, 0, 0);
+    row(x, 0, 1, 2, 0, 1);
     x = Check.told("court;person strength 3;tune;tires : beside + 1;");
     Check.tray(x, 0, 0, 0);
     row(x, 0, 0, 2, 0);

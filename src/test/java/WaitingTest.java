@@ -101,6 +101,8 @@ public final class WaitingTest {
     rests(x, 0, 2, 0, 3, 302, 303);
     rests(x, 2, 0, 0, 3, 203, 303);
     rests(x, 0, 1, 0, 3, 303);
+    rests(x, 0, 1, 0, 0, 0);
+    rests(x, 0, 1, 0, 2, 202);
     Check.tell(x, "court;person strength 9;person strength 9;person strength 9;tune;pains : 3;office 9;office 4;");
     rests(x, 0, 1, 0, 1, 1, 100);
     Check.tell(x, "court;person strength 9;person strength 9;person strength 9;tune;pains : 3;office 9;office 9;");
