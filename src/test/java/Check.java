@@ -51,9 +51,21 @@ final class Check {
 
   /** A text must be refused with this fault at this place. */
   static void faulty(String text, int fault, int at) {
+    faulty("3", text, fault, at);
+  }
+
+  static void faulty(String label, String text, int fault, int at) {
     StandRank x = new StandRank();
-    due("court: " + text, tell(x, text), -30 - fault);
-    due("fault(0) of: " + text, x.fault(0), fault);
-    due("fault(1) of: " + text, x.fault(1), at);
+    due(label + " court: " + text, tell(x, text), -30 - fault);
+    due(label + " fault(0) of: " + text, x.fault(0), fault);
+    due(label + " fault(1) of: " + text, x.fault(1), at);
+  }
+
+  /** A text must be read: so many lines, no fault. */
+  static void fine(String label, String text, int lines) {
+    StandRank x = new StandRank();
+    due(label + " court: " + text, tell(x, text), lines);
+    due(label + " fault(0) of: " + text, x.fault(0), 0);
+    due(label + " fault(1) of: " + text, x.fault(1), -1);
   }
 }
