@@ -1153,54 +1153,51 @@ public final class StandRank {
             if (at >= end) {
                 kind = END;
             } else if (isLetter(text[at])) {
-                takeWord();
+                while (behind < end && isLetter(text[behind])) {
+                    behind++;
+                }
+                kind = kindOfWord(behind - at);
             } else if (isDigit(text[at])) {
-                takeN();
+                while (behind < end && isDigit(text[behind])) {
+                    behind++;
+                }
+                kind = behind - at > MOST_DIGITS ? WRONG : N;
+                value = numberTold();
             } else {
-                takeSign();
+                behind++;
+                char sign = (char) (text[at] & 255);
+                kind = SIGNS.indexOf(sign) >= 0 ? sign : WRONG;
             }
             if (kind == WRONG) {
                 refuse(BEGINS_NONE);
             }
         }
 
-        private void takeWord() {
-            while (behind < end && isLetter(text[behind])) {
-                behind++;
-            }
-            int length = behind - at;
+        private int kindOfWord(int length) {
             int word = 0;
             int matched = 0;
-            kind = UNKNOWN;
-            for (int i = 0; i < WORDS.length() && kind == UNKNOWN; i++) {
+            for (int i = 0; i < WORDS.length(); i++) {
                 char c = WORDS.charAt(i);
                 if (c != ' ') {
                     boolean goesOn = matched >= 0 && matched < length && text[at + matched] == c;
                     matched = goesOn ? matched + 1 : NONE;
                 } else if (matched == length) {
-                    kind = FIRST_WORD + word;
+                    return FIRST_WORD + word;
                 } else {
                     word++;
                     matched = 0;
                 }
             }
+            return UNKNOWN;
         }
 
-        private void takeN() {
-            value = 0;
-            while (behind < end && isDigit(text[behind])) {
-                if (behind - at < MOST_DIGITS) {
-                    value = 10 * value + text[behind] - '0';
-                }
-                behind++;
+        /** What the digits of the token tell; of too many the first ones, as such a token is refused. */
+        private int numberTold() {
+            int told = 0;
+            for (int i = at; i < behind && i < at + MOST_DIGITS; i++) {
+                told = 10 * told + text[i] - '0';
             }
-            kind = behind - at > MOST_DIGITS ? WRONG : N;
-        }
-
-        private void takeSign() {
-            char sign = (char) (text[at] & 255);
-            behind++;
-            kind = SIGNS.indexOf(sign) >= 0 ? sign : WRONG;
+            return told;
         }
 
         private static boolean isLetter(int b) {

@@ -51,7 +51,7 @@ public final class LanguageTest {
     }
     must(Modifier.isFinal(StandRank.class.getModifiers()) && Modifier.isPublic(StandRank.class.getModifiers()), "1: public and final");
     for (Class<?> c : StandRank.class.getDeclaredClasses()) {
-      for (Method m : c.getDeclaredMethods()) must(!FACE.contains(" " + m.getName() + "("), "1: " + m + " bears a public name");
+      for (Method m : c.getDeclaredMethods()) must(!(" " + FACE).contains(" " + m.getName() + "("), "1: " + m + " bears a public name");
     }
   }
 

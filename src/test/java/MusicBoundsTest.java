@@ -160,6 +160,18 @@ public final class MusicBoundsTest {
     int[] just = {0, 0, 0, 1, 1, 0, 0, 0};
     for (int n = 0; n <= 7; n++) Check.due("P25 just " + n, x.ways(0, n), just[n]);
     for (int n = 0; n <= 7; n++) Check.due("P25 never, " + n, x.ways(1, n), 0);
+    // tune t spares person t: each of six by its own tunes alone
+    x = Check.told("court;" + "person strength 1;".repeat(4) + "tune;tune;tune;tune;tires : if who = tune then 0 else 1 end;");
+    for (int p = 0; p < 4; p++) {
+      Check.due("P25 one minute, of " + p, x.ways(p, 1), 0);
+      Check.due("P25 two minutes, of " + p, x.ways(p, 2), 1);
+      Check.due("P25 three minutes, of " + p, x.ways(p, 3), 1 + 3 * 3);
+      Check.due("P23 two minutes, of " + p, x.alone(p), 2);
+      Check.due("P24 by its own, of " + p, x.aloneBy(p, 1), p);
+    }
+    x = Check.told("court;" + "person strength 0;".repeat(5) + "person strength 1;tune;");
+    Check.due("P25 the sixth", x.ways(5, 1), 1);
+    Check.due("P25 the sixth, no more", x.ways(5, 2), 0);
   }
 
   /** Promise 25: without TUNES there is the way of no MINUTES alone. */

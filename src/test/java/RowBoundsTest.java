@@ -51,6 +51,10 @@ public final class RowBoundsTest {
     row("all rows alike", x, 0, 2, 2, 0, 1, 2, 3, 4, 5);
     x.change(0, 5);
     row("as it stands now is nothing", x, 0, 2, 2, 0, 1, 2, 3, 4, 5);
+    // a law of beside alone: 1 is best at an end, between two it sits in minute 1
+    x = Check.told("court;person strength 9;person strength 1;person strength 9;tune;tires : beside;");
+    x.numbers(0, 1, 2);
+    row("beside alone", x, 0, 1, 1, 0, 2, 1);
     x = Check.told("court;" + "person strength 9;".repeat(3) + "tune;tires : if who = 0 then 9 - beside * 4 else 0 end;");
     x.numbers(0, 1, 3);
     row("between two: 1 0 2 is ahead of 2 0 1", x, 0, 0, 3, 1, 0, 2);
@@ -96,6 +100,24 @@ public final class RowBoundsTest {
     x.sit(0);
     row("nobody else stands", x, 0, 3, 5, 0, 1, 2, 3);
     Check.due("P28 of one that sits", x.row(0, 0), -5);
+    // on spot 0 and on the last spot those who sit, or those who stand
+    x = Check.told("court;" + "person strength 9;".repeat(3) + "tune;tires : if who = 2 then 5 * beside else 0 end;");
+    x.numbers(0, 1, 2);
+    x.sit(0);
+    row("the one that sits beside 2", x, 0, 2, 2, 1, 0, 2);
+    x.change(0, 2);
+    row("the one that sits beside 2", x, 0, 2, 2, 1, 0, 2);
+    x = Check.told("court;" + "person strength 9;".repeat(3) + "tune;tires : if who = 2 then 10 - 5 * beside else 0 end;");
+    x.numbers(0, 1, 2);
+    x.sit(0);
+    row("the one that stands beside 2", x, 0, 2, 1, 0, 1, 2);
+    x.change(1, 0);
+    row("the one that stands beside 2", x, 0, 2, 1, 0, 1, 2);
+    x = Check.told("court;" + "person strength 9;".repeat(3) + "tune;tires : if who = 0 then 10 - 5 * beside else 0 end;");
+    x.numbers(0, 1, 2);
+    x.sit(1);
+    x.change(1, 2);
+    row("the one that stands beside 0", x, 0, 0, 1, 0, 2, 1);
   }
 
   /** Promise 29: -7: no such SPOT, behind all codes of stands(). */
@@ -226,10 +248,13 @@ public final class RowBoundsTest {
     x = Check.told("court;" + "person strength 0;".repeat(5) + "tune;tires : if who = 4 then up - 3 else if up > 3 then 0 else 1 end end;");
     x.numbers(0, 1, 1);
     chairs("any two of four: the least", x, 4, 3);
-    // 0 would need both 1 and 2, or 3 alone
-    x = Check.told("court;person strength 0;person strength 0;person strength 0;person strength 9;tune;tires : if who = 3 then 0 else 1 end;");
+    // row 0 1 3 2: 2 is spared when both 0 and 1 sit, or 3 alone, which is beside it
+    x = Check.told("court;" + "person strength 0;".repeat(4) + "tune;tires : if who = 2 and [ beside = 0 or up < 3 ] then 0 else 1 end;");
     x.numbers(0, 1, 1);
-    chairs("one is fewer than two, though its bits are more", x, 0, 8);
+    x.change(2, 3);
+    chairs("one is fewer than two, though its bits are more", x, 2, 8);
+    x.sit(0);
+    chairs("one of 1 and 3: the least", x, 2, 2);
   }
 
   /** Terms, CHAIRS: SITTING down now, so that behind the NIGHT the PLACE is 0. */

@@ -324,6 +324,16 @@ public final class TextBoundsTest {
     x.play(0);
     Check.due("Terms, without tires: 1", x.person(0, 0), 49);
     Check.faulty("Terms, laws: a fault, though a later one strikes", "court;tires : ;tires : 1;", 2, 14);
+    // as many as 900 bytes hold, and one as long, again and again
+    StandRank y = new StandRank();
+    for (int k = 1; k <= 5; k++) {
+      Check.due("Terms, 104 laws", Check.tell(y, "court;person strength 50;tune;" + "tires:9;".repeat(104) + "tires:" + k + ";"), 108);
+      Check.due("Terms, the last of 105 laws", y.tires(0, 0), k);
+      Check.due("Terms, a long law", Check.tell(y, "court;person strength 50;tune;tires:" + "1-1+".repeat(214) + k + ";"), 4);
+      Check.due("Terms, a long law", y.tires(0, 0), k);
+      Check.due("Terms, a long law", Check.tell(y, "court;person strength 50;tune;tires:" + k + "*1".repeat(430) + ";"), 4);
+      Check.due("Terms, a long law", y.tires(0, 0), k);
+    }
   }
 
   /** Terms, N: 1 to 3 digits; FAULT 1: 4 digits and more, at their first. */

@@ -273,6 +273,9 @@ public final class TrayBoundsTest {
     StandRank x = Twin.busy();
     StandRank y = Twin.busy();
     x.image(1);
+    x.write(0, 1, 0);
+    x.numbers(2, 0, 4);
+    x.numbers(3, 2, 1);
     x.evening();
     x.change(1, 3);
     x.sit(0);
@@ -294,6 +297,9 @@ public final class TrayBoundsTest {
     Check.due("P43 the tape is not in it", x.count(9), 0);
     Check.due("P43 the fault is not in it", x.fault(0), 0);
     Check.due("P43 trays are not in it", x.judge(1, 0), 4);
+    Check.due("P43 trays are not in it: written", x.rooms(0, 0, 2), 1);
+    Check.due("P43 trays are not in it: another", x.write(2, 3, 5), 5);
+    Check.due("P43 trays are not in it: a new one", x.write(3, 0, 5), 5);
     x.play(0);
     y.play(0);
     Check.due("P43 goes on from there: strengths", x.count(6), y.count(6));

@@ -118,6 +118,27 @@ public final class WaitingBoundsTest {
       rests("paid: to the bound " + bound, paid, bound, 101 * bound);
       rests("pained: 0, bound " + bound, pained, bound, 0);
     }
+    for (int bound : new int[] {20, 19, 2, 1, 0}) {
+      rests("paid: to the bound " + bound + ", asked for less and less", paid, bound, 101 * bound);
+    }
+    // without pain one of both tells the bound, the other one what it likes
+    StandRank free = Check.told("court;person strength 99;person strength 99;tune;pains : 0;office 9;office 4;");
+    for (int bound : new int[] {0, 1, 2, 19, 20, 3}) {
+      Check.due("P35 one tells the bound " + bound, free.rests(0, 1, 0, bound), 2 * bound + 1);
+      for (int k = 0; k < bound; k++) {
+        Check.due("P36 the second one tells the bound " + bound, free.rest(0, 1, 0, bound, k), 100 * k + bound);
+        Check.due("P36 the first one tells the bound " + bound, free.rest(0, 1, 0, bound, bound + k), 100 * bound + k);
+      }
+    }
+    // of two tunes, whichever was asked for ahead
+    String two = "court;person strength 99;person strength 99;tune;tune;pains : if tune = 0 then 0 - 1 else 3 end;office 9;office 4;";
+    for (int t = 0; t < 2; t++) for (int bound = 0; bound <= 2; bound++) for (int then = 0; then < 2; then++) for (int other = 0; other <= 2; other++) {
+      StandRank y = Check.told(two);
+      y.rests(0, 1, t, bound);
+      Check.due("P35 rests(0, 1, " + then + ", " + other + ") behind (" + t + ", " + bound + ")", y.rests(0, 1, then, other), then == 0 || other == 0 ? 1 : 2);
+      y.rests(0, 1, t, bound);
+      Check.due("P36 rest(0, 1, " + then + ", " + other + ", 0) behind (" + t + ", " + bound + ")", y.rest(0, 1, then, other, 0), then == 0 ? 101 * other : other == 0 ? 0 : 1);
+    }
     // to stand one minute longer wins 5 and costs 5 each: with a bound of 1 one of both, or none, may
     StandRank x = Check.told("court;person strength 99;person strength 99;tune;pains : 5;office 9;office 4;");
     rests("costs what it wins", x, 1, 0, 1, 100);
