@@ -54,6 +54,8 @@ public final class AskedAnewTest {
       ask("P19 place(0, " + p + ")", x -> x.place(0, p));
       ask("P6 tires(" + p + ", 1)", x -> x.tires(p, 1));
     }
+    ask("P23 alone(2)", x -> x.alone(2));
+    ask("P24 aloneBy(2, 0)", x -> x.aloneBy(2, 0));
     ask("P38 chancellor(4)", x -> x.chancellor(4));
     ask("P36 rest(0, 1, 1, 20, 3)", x -> x.rest(0, 1, 1, 20, 3));
     ask("P20 breakfast(0)", x -> x.breakfast(0));

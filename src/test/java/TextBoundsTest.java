@@ -188,7 +188,9 @@ public final class TextBoundsTest {
       boolean fits = fit.contains(token) || token.equals("0") && fit.contains("1");
       String text = ahead + token + " ?";
       if (fits) Check.faulty(label, text, 1, text.length() - 1);
-      else Check.faulty(label, text, 2, ahead.length());
+      for (String behind : new String[] {" ?", "", ";", " ; ", ";tune;"}) {
+        if (!fits) Check.faulty(label, ahead + token + behind, 2, ahead.length());
+      }
     }
     if (!fit.contains("END")) Check.faulty(label + " the end", ahead, 2, ahead.length());
   }
@@ -220,6 +222,7 @@ public final class TextBoundsTest {
     }
     Check.faulty("Terms, strength above 99", "court;person strength 100;", 3, 22);
     Check.faulty("Terms, strength above 99", "court;person strength 999;", 3, 22);
+    Check.faulty("Terms, strength above 99, and a sign too many", "court;person strength 100;;", 3, 22);
     Check.faulty("Terms, strength below 0", "court;person strength -1;", 2, 22);
     Check.faulty("Terms, strength of the sixth", "court;" + "person strength 99;".repeat(5) + "person strength 100;", 3, 6 + 95 + 16);
   }
