@@ -140,6 +140,12 @@ public final class ChanceBoundsTest {
     StandRank x = Check.told("court;person strength 3;person strength 3;tune;tires : if who = 0 then 1 else 0 end;");
     int[] want = {0, 0, 0, 0, 1, 1, 1};
     for (int n = 0; n <= 6; n++) Check.due("P38 chancellor(" + n + ")", x.chancellor(n), want[n]);
+    for (int ahead = 0; ahead <= 6; ahead++) for (int changes = 0; changes <= 5; changes++) for (int n = 0; n <= 6; n++) {
+      StandRank y = Check.told("court;person strength 3;person strength 3;tune;tires : if who = 0 then 1 else 0 end;");
+      y.chancellor(ahead);
+      for (int k = 0; k < changes; k++) y.play(0);
+      Check.due("P38 chancellor(" + n + ") behind chancellor(" + ahead + ") and " + changes + " minutes", y.chancellor(n), n + changes < 4 ? 0 : 1);
+    }
     x = Check.told("court;person strength 5;person strength 5;tune;tires : if who = 0 then 1 else 0 end;");
     Check.due("P38 six minutes", x.chancellor(6), 1);
     Check.due("P38 five minutes", x.chancellor(5), 0);

@@ -98,6 +98,13 @@ public final class WaitingBoundsTest {
     StandRank x = Check.told("court;person strength 99;person strength 99;tune;pains : 0;");
     int k = 0;
     for (int a = 0; a <= 20; a++) for (int b = 0; b <= 20; b++, k++) Check.due("P36 rest " + k, x.rest(0, 1, 0, 20, k), 100 * a + b);
+    // each tells its own number of minutes: 0 one, 1 two, 2 three, whoever was asked for ahead
+    String three = "court;person strength 99;person strength 99;person strength 99;tune;pains : if minute > who then 1 else 0 - 1 end;";
+    for (int p = 0; p < 3; p++) for (int q = 0; q < 3; q++) for (int a = 0; a < 3; a++) for (int b = 0; b < 3; b++) if (p != q && a != b) {
+      StandRank y = Check.told(three);
+      y.rests(a, b, 0, 4);
+      Check.due("P36 rest(" + p + ", " + q + ", ..) behind (" + a + ", " + b + ", ..)", y.rest(p, q, 0, 4, 0), 100 * (p + 1) + q + 1);
+    }
     // who is asked for first is the first one
     x = Check.told("court;person strength 99;person strength 99;tune;pains : if who = 0 then 1 else 0 - 1 end;");
     Check.due("P36 0 and 1", x.rest(0, 1, 0, 7, 0), 7);
