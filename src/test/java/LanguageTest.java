@@ -23,7 +23,9 @@ public final class LanguageTest {
   public static void main(String[] args) throws Exception {
     face();
     nested();
-    source(Files.readString(Path.of("src/main/java/StandRank.java")));
+    String text = Files.readString(Path.of("src/main/java/StandRank.java"));
+    source(text);
+    headings(text);
     System.out.println(wrong == 0 ? "the rules that can be seen are kept" : wrong + " rules are not kept");
     if (wrong != 0) System.exit(1);
   }
@@ -75,6 +77,27 @@ public final class LanguageTest {
       }
       must(fields <= 20, "11: " + c + " has " + fields + " fields");
       for (Method m : c.getDeclaredMethods()) must(m.getParameterCount() <= 7, "11: parameters of " + m);
+    }
+  }
+
+  /** What the interface says ahead of which calls; calls in the document's order. */
+  private static final String[] HEADINGS = {"the court: feed court fault person tires office spot",
+    "deeds: play sit change wine evening undo judge perform season", "nights: stands place breakfast worth bestSit",
+    "music: alone aloneBy ways sits sitsBy", "rows, chairs: row rowSpot leans chairs", "strengths: rooms bound next",
+    "waiting: rests rest", "chances: chance chancellor", "trays, images: numbers write lists image restore count"};
+
+  private static void headings(String text) {
+    int at = 0;
+    for (int k = 0; k < HEADINGS.length; k++) {
+      String[] told = HEADINGS[k].split(": ");
+      at = text.indexOf("\n    // ---- " + told[0] + "\n", at);
+      must(at > 0, "the face: ---- " + told[0]);
+      int behind = text.indexOf("\n    // ---- ", at + 1);
+      for (String call : told[1].split(" ")) {
+        Matcher m = Pattern.compile("\n    public (int|long) " + call + "\\(").matcher(text);
+        must(at >= 0 && m.find(at) && m.start() < behind, "the face: " + call + " behind ---- " + told[0]);
+        if (at >= 0 && m.find(at)) at = m.start();
+      }
     }
   }
 
