@@ -26,7 +26,8 @@ public final class ReadmeTest {
   private static void examples(String page) throws Exception {
     StandRank x = new StandRank();
     int seen = 0;
-    for (String line : page.split("\n")) {
+    // a text that goes on in the next line
+    for (String line : page.replaceAll("\"\n *\\+ \"", "").split("\n")) {
       Matcher call = CALL.matcher(line);
       Matcher tell = TELL.matcher(line);
       if (tell.matches()) Check.due(line, tell(x, tell.group(1)), Long.parseLong(tell.group(2)));
